@@ -43,9 +43,6 @@ public final class OffsetRows {
         if (!isNode(from) || !isNode(to)) {
             return UNKNOWN;
         }
-        if (arcs.isFull()) {
-            return ROOM;
-        }
         return arcs.append(from, to, ArcList.WAITS);
     }
 
@@ -320,10 +317,6 @@ public final class OffsetRows {
             return arc >= 0 && arc < count;
         }
 
-        boolean isFull() {
-            return count >= MOST_ARCS;
-        }
-
         boolean isLive(int arc) {
             return has(arc) && state[arc] != LEFT && !taken[arc];
         }
@@ -333,7 +326,7 @@ public final class OffsetRows {
         }
 
         int append(int fromNode, int toNode, int newState) {
-            if (isFull()) {
+            if (count >= MOST_ARCS) {
                 return ROOM;
             }
             int arc = count;
@@ -495,11 +488,18 @@ public final class OffsetRows {
         }
 
         int liveArc(int node, int k) {
-            int place = livePlaceFrom(node, 0);
-            for (int passed = 0; passed < k && place != NONE; passed++) {
-                place = livePlaceFrom(node, place + 1);
+            int places = countPlaces(node);
+            int passed = 0;
+            for (int place = 0; place < places; place++) {
+                int arc = arcAt(node, place);
+                if (arcs.isLive(arc)) {
+                    if (passed == k) {
+                        return arc;
+                    }
+                    passed++;
+                }
             }
-            return place == NONE ? NONE : arcAt(node, place);
+            return NONE;
         }
     }
 

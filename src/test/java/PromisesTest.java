@@ -110,6 +110,8 @@ public final class PromisesTest {
             due("arc " + arc, x.arc(arc % 2, 1), arc);
         }
         due("161st", x.arc(0, 0), ROOM);
+        due("a full graph is walked whole", x.near(1, 0), NONE);
+        due("a full graph is counted whole", x.ways(0, 1, 2), 80L * 80L);
         due("unknown comes ahead of room", x.arc(0, 2), UNKNOWN);
         due("none came", x.between(0, 0), 0);
         x.take(5);
